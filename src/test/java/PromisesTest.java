@@ -70,6 +70,7 @@ public final class PromisesTest {
         imageAndBack();
         status();
         refusalsChangeNothing();
+        eightAlike();
         System.out.println(checks + " checks of promises, " + wrong + " not as due");
         if (wrong != 0) {
             System.exit(1);
@@ -399,13 +400,17 @@ public final class PromisesTest {
             "person 6 0 0", "person 0 10 0", "person 0 0 100", "person 000 0 0", "person 0 0 0 0", "person 0 0 0 x",
             "person 0 0 0x", "person 0 0 -1", "person 0 0,0", "wrong 0", "person 0 0 0;wrong 1", "right 0", "words 0 1",
             "person 0 0 0;words 0 ", "minutes 0", "minutes 10", "absent 13", "absent 012", "minutes 4 ;absent",
-            "person 5 0 0;wrong 0", "minutes 1\u00e9", "minutes\t1", "minutes 100", "wrong;", "words 00 5"};
+            "person 5 0 0;wrong 0", "minutes 1\u00e9", "minutes\t1", "minutes 100", "wrong;", "words 00 5",
+            "right", "right;minutes 4", "words", "words;minutes 4", "person 0 0;minutes 4", "minutes", "minutes;minutes 4",
+            "absent", "absent;minutes 4", "personz 0 0 0", "person 0 0 0;wordz 0 0", "xords 0 0"};
         int[] fault = {0, 3, 6, 7, 8, 11, 13, 14,
             0, 1, 13, 0, 0, 0, 0, 6, 7,
             7, 9, 11, 7, 13, 13,
             12, 11, 10, 6, 19, 6, 6,
             21, 8, 8, 7, 7, 17,
-            19, 9, 7, 8, 5, 6};
+            19, 9, 7, 8, 5, 6,
+            5, 5, 5, 5, 10, 7, 7,
+            6, 6, 0, 13, 0};
         InTwosInSpanish x = new InTwosInSpanish();
         for (int i = 0; i < text.length; i++) {
             if (i % 10 == 0) {
@@ -801,6 +806,10 @@ public final class PromisesTest {
         due("37: who sits out doesn't talk", y.silent(0), 0);
         due("39: nobody talks", y.gap(0), 0);
         due("46: nobody talks", y.noise(0), 0);
+        y.person(0, 0, 90);
+        due("37: the first SPEAKS nothing", y.silent(0), 1);
+        due("39: the second has more", y.gap(0), 90);
+        due("39: the first has more", persons(70, 20).gap(0), 50);
     }
 
     private static void bestRound() {
@@ -852,6 +861,7 @@ public final class PromisesTest {
     private static void often() {
         InTwosInSpanish x = persons(50, 50);
         // 50, 56, 62: from 60 on each SPEAKS 44
+        due("43: often(0, 1, 0)", x.often(0, 1, 0), 0);
         due("43: often(0, 1, 50)", x.often(0, 1, 50), 0);
         due("43: often(0, 1, 51)", x.often(0, 1, 51), 1);
         due("43: often(0, 1, 57)", x.often(0, 1, 57), 2);
@@ -1020,8 +1030,14 @@ public final class PromisesTest {
         due("56: harm(2)", x.harm(2), 2);
         due("56: harm(3)", x.harm(3), BAD);
         due("56: harm(-1)", x.harm(-1), BAD);
+        x.wrong(2, true);
+        due("56: harm(2)", x.harm(2), 2);
+        x.wrong(0, true);
+        due("56: harm(1), all are WRONG", x.harm(1), 5);
         InTwosInSpanish y = six();
         due("57: dumb(3)", y.dumb(3), 54);
+        y.words(0, 99);
+        due("57: dumb(3)", y.dumb(3), 55);
         due("57: dumb(0)", y.dumb(0), 0);
         due("57: dumb(6)", y.dumb(6), BAD);
         due("57: dumb(-1)", y.dumb(-1), BAD);
@@ -1058,6 +1074,13 @@ public final class PromisesTest {
         due("59: BAD n goes ahead", x.judge(4, 21), BAD);
         due("59: BAD n goes ahead", x.judge(3, -1), BAD);
         due("59: judge(8, 0)", x.judge(8, 0), BAD);
+        InTwosInSpanish u = persons(1, 2, 3, 4, 5, 6);
+        tellPairs(u, 0, 2, 0, 1, 2, 3, 4, 0);
+        due("59: the third of a ROUND with one of the first", u.judge(0, 3), 2);
+        u.set(0, 5, 5);
+        due("59: the third of a ROUND", u.judge(0, 3), NONE);
+        u.set(0, 4, 6);
+        due("59: nobody, the other place", u.judge(0, 3), 2);
         InTwosInSpanish y = persons(1, 2, 3);
         tellPairs(y, 0, 2, 0, 1, 0, 2, 1, 2, 0, 1);
         due("59: a ROUND of three is one pair", y.judge(0, 4), 3);
@@ -1203,7 +1226,10 @@ public final class PromisesTest {
         due("66: nothing was", y.back(), STUCK);
         due("66: it is refused", y.status(15), 1);
         y.image();
+        y.person(0, 0, 0);
+        y.show(0, 0);
         due("66: nobody was kept", y.back(), 1);
+        due("66: NOTHING in the first SHELF", y.holds(0), NONE);
     }
 
     private static void status() {
@@ -1262,5 +1288,56 @@ public final class PromisesTest {
         due("REFUSALS: BAD", x.status(12), 12);
         due("REFUSALS: STUCK", x.status(15), 1);
         due("REFUSALS: MET", x.met(), 0);
+    }
+
+    /** Eight PERSONS who SPEAK 40 and LEARN 6 each with each. */
+    private static void eightAlike() {
+        InTwosInSpanish x = persons(50, 50, 50, 50, 50, 50, 50, 50);
+        due("21: rounds()", x.rounds(), 7);
+        due("24: how much", x.tonight(NONE), 48);
+        due("24: tonight(7)", x.tonight(7), 6);
+        due("25: rather()", x.rather(), 0);
+        due("32: hold(48)", x.hold(48), 4);
+        due("33: stay(7, 6)", x.stay(7, 6), 7);
+        due("34: lesson(6, 0)", x.lesson(6, 0), 48);
+        due("35: best(7, 0)", x.best(7, 0), 0);
+        due("36: first(0)", x.first(0), 0);
+        due("37: silent(6)", x.silent(6), 0);
+        due("38: bestRound(0)", x.bestRound(0), 0);
+        due("39: gap(6)", x.gap(6), 0);
+        due("41: gain(6)", x.gain(6), 0);
+        due("42: bestAway()", x.bestAway(), 1);
+        due("44: unmet(7)", x.unmet(7), 127);
+        due("46: noise(6)", x.noise(6), 320);
+        due("47: all(7, 0)", x.all(7, 0), 280);
+        due("47: all(7, 1)", x.all(7, 1), 42);
+        due("48: fair()", x.fair(), 0);
+        due("49: sitsOut(6)", x.sitsOut(6), NONE);
+        due("50: mixed(0, 0)", x.mixed(0, 0), 28);
+        due("53: likes(7, 6)", x.likes(7, 6), 6);
+        due("53: likes(0, 6)", x.likes(0, 6), 7);
+        due("53: likes(6, 0)", x.likes(6, 0), 0);
+        due("54: bestPair(0)", x.bestPair(0), 1);
+        due("55: fresh(NONE)", x.fresh(NONE), 48);
+        due("57: dumb(7)", x.dumb(7), 0);
+        due("58: ofKind(0)", x.ofKind(0), 8);
+        for (int p = 0; p < 8; p++) {
+            x.wrong(p, true);
+        }
+        due("27: spread(7)", x.spread(7), 255);
+        due("28: cured(0)", x.cured(0), 8);
+        due("28: cured(1)", x.cured(1), 255);
+        due("29: listen(6)", x.listen(6), 0);
+        due("51: turned(6, false)", x.turned(6, false), 0);
+        due("56: harm(7)", x.harm(7), 127);
+        due("62: four TALKS", x.evening(1), 48);
+        due("52: until(448)", x.until(448), 0);
+        due("26: ahead(7, 1)", x.ahead(7, 1), 62);
+        x.tell(1, 0);
+        due("63: four TALKS", x.drawn(1), 48);
+        due("45: met()", x.met(), 8);
+        due("62: seven ROUNDS", x.evening(7) > 0 ? 1 : 0, 1);
+        due("45: met()", x.met(), 28);
+        due("55: it can't be", x.fresh(7), NONE);
     }
 }
