@@ -240,6 +240,8 @@ public final class PromisesTest {
         for (int[] n : none) {
             due("5: element of none", x.element(n[0], n[1]), 0);
         }
+        x.row(3, 3, 40);
+        due("5: element behind forty", x.element(3, 40), 0);
         x.person(0, 0, 0);
         x.person(0, 0, 0);
         x.show(3, 1);
@@ -918,6 +920,7 @@ public final class PromisesTest {
         due("48: all alike", persons(50, 50, 50).fair(), 0);
         // 5 and 5, 5 and 4, 4 and 4
         due("48: three", three().fair(), 2);
+        due("48: three, the last LEARNS most", persons(10, 30, 50).fair(), 2);
     }
 
     private static void sitsOut() {
