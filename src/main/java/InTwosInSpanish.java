@@ -399,24 +399,27 @@ public final class InTwosInSpanish {
         return found;
     }
 
+    /** Every pair counts, also one without a WRONG one: where WRONG ones SPEAK nothing, the first of all is due. */
     public int listen(int r) {
         if (!now.isRound(r)) {
             return refuse(BAD);
         }
         int found = NONE;
         int most = 0;
+        boolean anyWrong = false;
         for (int x = 0; x < now.count; x++) {
             int y = now.mateIn(r, x);
-            if (y < x || !(now.isWrong(x) || now.isWrong(y))) {
+            if (y < x) {
                 continue;
             }
+            anyWrong = anyWrong || now.isWrong(x) || now.isWrong(y);
             int spoken = spokenWrongly(x, y) + spokenWrongly(y, x);
             if (found == NONE || spoken > most) {
                 found = x;
                 most = spoken;
             }
         }
-        return found;
+        return anyWrong ? found : NONE;
     }
 
     public int stay(int person, int v) {

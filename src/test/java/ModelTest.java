@@ -595,9 +595,13 @@ public final class ModelTest {
             }
             int best = NONE;
             int most = -1;
+            int wrongOnes = 0;
             for (int p = 0; p < size(); p++) {
                 int q = partner(p, r);
-                if (q > p && (at(p).wrong || at(q).wrong)) {
+                if (q != NONE && at(p).wrong) {
+                    wrongOnes++;
+                }
+                if (q > p) {
                     int n = (at(p).wrong ? speaks(p, q) : 0) + (at(q).wrong ? speaks(q, p) : 0);
                     if (n > most) {
                         most = n;
@@ -605,7 +609,7 @@ public final class ModelTest {
                     }
                 }
             }
-            return best;
+            return wrongOnes == 0 ? NONE : best;
         }
 
         int kinds(int p, int q, int n) {

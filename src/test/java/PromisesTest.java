@@ -672,10 +672,34 @@ public final class PromisesTest {
         due("29: what right ones SPEAK doesn't count", y.listen(0), 1);
         y.wrong(0, true);
         due("29: both of a pair count", y.listen(0), 0);
-        InTwosInSpanish z = persons(50, 50, 90);
-        z.person(3, 0, 10);
-        z.wrong(3, true);
-        due("29: a WRONG one who SPEAKS nothing", z.listen(2), 2);
+        listenToSilentOnes();
+    }
+
+    private static void listenToSilentOnes() {
+        InTwosInSpanish x = persons(50, 50, 90);
+        x.person(3, 0, 10);
+        due("29: nobody is WRONG", x.listen(2), NONE);
+        x.wrong(3, true);
+        // ROUND 2: 0 with 1, 2 with 3
+        due("29: the only WRONG one SPEAKS nothing: the first of all pairs", x.listen(2), 0);
+        x.words(3, 70);
+        due("29: he SPEAKS", x.listen(2), 2);
+        x.words(3, 10);
+        x.words(0, 90);
+        // ROUND 0: 0 with 3, 1 with 2
+        due("29: he SPEAKS nothing in the first pair", x.listen(0), 0);
+        x.wrong(2, true);
+        due("29: one who SPEAKS ahead of one who doesn't", x.listen(0), 1);
+        due("29: both WRONG, one of them SPEAKS", x.listen(2), 2);
+        InTwosInSpanish y = persons(0, 0);
+        y.person(3, 0, 0);
+        y.person(0, 0, 49);
+        y.person(0, 0, 0);
+        y.wrong(2, true);
+        // ROUND 0: 0 sits out, 1 with 4, 2 with 3
+        due("29: who sits out is in no pair", y.listen(0), 1);
+        // ROUND 2: 2 sits out
+        due("29: the WRONG one sits out", y.listen(2), NONE);
     }
 
     private static void kinds() {
