@@ -354,6 +354,13 @@ public final class EdgesOfEveningsTest {
         y.back();
         t.due("all SHELVES", y.status(8), 8);
         t.due("one of the number 7", y.holds(7), 17);
+        InTwosInSpanish z = Worlds.persons(10, 20, 30);
+        z.talk(0, 1);
+        z.image();
+        z.talk(0, 2);
+        z.back();
+        t.due("MET as it was kept", z.personOf(0, 4), 2);
+        t.due("MET as it was kept", z.personOf(2, 4), 0);
         InTwosInSpanish fewer = new InTwosInSpanish();
         fewer.image();
         fewer.person(0, 0, 0);

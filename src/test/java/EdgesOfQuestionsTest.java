@@ -281,6 +281,10 @@ public final class EdgesOfQuestionsTest {
         t.asked(six, 0, "rather");
         t.asked(() -> Worlds.people(3, 0, 40, 1, 0, 70, 0, 0, 50, 0, 0, 50), 1, "rather");
         t.asked(() -> Worlds.people(3, 0, 0, 0, 0, 20, 2, 0, 90), 1, "rather");
+        // 2 sits out and would LEARN just 1 with 0, who would LEARN 3, not 2
+        t.asked(() -> Worlds.people(0, 0, 30, 0, 0, 80, 3, 0, 0), 1, "rather");
+        // MET doesn't matter
+        t.asked(() -> talked(Worlds.people(0, 0, 30, 0, 0, 80, 3, 0, 0), 0, 1), 1, "rather");
     }
 
     private void ahead() {
@@ -344,6 +348,8 @@ public final class EdgesOfQuestionsTest {
         t.asked(() -> wrongOf(Worlds.eight(), 16), 3, "listen", 0);
         t.asked(() -> wrongOf(Worlds.eight(), 48), 2, "listen", 0);
         t.asked(() -> wrongOf(Worlds.eight(), 56), 3, "listen", 0);
+        // 0 and 7 SPEAK 20 each, 1 SPEAKS 40 with 6, who is right: what right ones SPEAK doesn't count
+        t.asked(() -> wrongOf(Worlds.persons(0, 50, 0, 0, 0, 0, 50, 0), 131), 0, "listen", 0);
         // ROUND 6: 6 with 7
         t.asked(() -> wrongOf(Worlds.eight(), 128), 6, "listen", 6);
         t.sentence("BAD: no such ROUND.");
@@ -400,6 +406,7 @@ public final class EdgesOfQuestionsTest {
         t.asked(two, 1, "hold", 2);
         t.asked(two, 2, "hold", 3);
         t.asked(two, 9, "hold", 26);
+        t.asked(() -> talked(Worlds.persons(50, 50), 0, 1), 9, "hold", 26);
         t.range(two, "hold", 0, 0, 999, 0);
         t.sentence("BAD.");
         t.range(six, "hold", 0, 0, 999, 0);
@@ -583,6 +590,7 @@ public final class EdgesOfQuestionsTest {
         t.asked(three, 2, "gain", 0);
         t.asked(three, 1, "gain", 1);
         t.asked(three, 0, "gain", 2);
+        t.asked(() -> talked(Worlds.persons(50, 50), 0, 1), 0, "gain", 0);
         t.sentence("BAD: no such ROUND.");
         roundOfSix("gain", 0);
     }
@@ -596,6 +604,7 @@ public final class EdgesOfQuestionsTest {
         t.asked(three, 1, "bestAway");
         t.asked(eight, 1, "bestAway");
         t.asked(() -> Worlds.persons(50, 50, 50, 50, 50, 50, 0, 0), 67, "bestAway");
+        t.asked(() -> talked(Worlds.persons(50, 50, 50, 50), 2, 3), 1, "bestAway");
         // with GUESTS nothing is LEARNED but by one of two
         t.asked(() -> Worlds.people(5, 0, 0, 0, 0, 50, 5, 0, 0, 0, 0, 50), 2, "bestAway");
         t.sentence(NOT_REFUSED);

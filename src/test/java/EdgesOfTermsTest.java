@@ -355,9 +355,10 @@ public final class EdgesOfTermsTest {
         t.due("WRONG now", x.spread(0), 1);
         t.due("what there was is there", x.personOf(1, 2), 2);
         t.due("KIND of the new one", x.personOf(2, 0), 1);
-        t.due("MET stays", Worlds.read(talked(), "words 0 5"), 1);
         InTwosInSpanish y = talked();
         Worlds.read(y, "words 0 5;x");
+        t.due("MET stays", y.met(), 1);
+        Worlds.read(y, "words 0 5");
         t.due("MET stays", y.met(), 1);
     }
 
@@ -373,6 +374,14 @@ public final class EdgesOfTermsTest {
         fault("   absent x", 10);
         fault("minutes 4;persons 1 1 1", 10);
         fault("x;?", 0);
+        String[] words = {"person", "wrong", "right", "words", "minutes", "absent"};
+        for (String word : words) {
+            for (int i = 0; i < word.length(); i++) {
+                fault("minutes 4; " + word.substring(0, i) + "q" + word.substring(i + 1) + " 1 1 1", 11);
+            }
+            fault("minutes 4; " + word.substring(1) + " 1 1 1", 11);
+            fault("minutes 4; " + word.substring(0, word.length() - 1) + " 1 1 1", 11);
+        }
         fault("?;x", 0);
         fault("minutes 0 ?", 8);
 
@@ -653,6 +662,8 @@ public final class EdgesOfTermsTest {
         t.asked(() -> Worlds.people(3, 0, 0, 0, 0, 20, 2, 0, 90), 1, "rather");
         // a GUEST who sits out would LEARN no more
         t.asked(() -> Worlds.people(5, 0, 0, 0, 0, 20, 2, 0, 90), 0, "rather");
+        // 2 sits out and would LEARN just 1 with 0, who would LEARN 3, not 2
+        t.asked(() -> Worlds.people(0, 0, 30, 0, 0, 80, 3, 0, 0), 1, "rather");
         t.asked(() -> Worlds.people(3, 0, 40, 1, 0, 70, 0, 0, 50, 0, 0, 50), 1, "rather");
     }
 
